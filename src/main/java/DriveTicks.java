@@ -1021,13 +1021,19 @@ public final class DriveTicks {
             place++;
             int w = readWant();
             int period = fault == NONE ? readPeriod(periodNow) : 0;
-            if (fault == NONE && byteHere() != ';') {
-                failAt(place);
-            }
-            if (fault == NONE) {
-                place++;
+            if (fault == NONE && readEnd()) {
                 wishes.add(l, period, w, 0);
             }
+        }
+
+        private boolean readEnd() {
+            skipBlanks();
+            if (byteHere() != ';') {
+                failAt(place);
+                return false;
+            }
+            place++;
+            return true;
         }
 
         private int readWant() {
@@ -1065,7 +1071,6 @@ public final class DriveTicks {
                 failAt(first);
                 return 0;
             }
-            skipBlanks();
             return value;
         }
 

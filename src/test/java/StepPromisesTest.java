@@ -264,6 +264,26 @@ public final class StepPromisesTest {
         Check.same("23 WISHES stay", x.count(4), 3);
         bad("23 below", x, x.count(0), x.tunes(-1));
         bad("23 above", x, x.count(0), x.tunes(501));
+        promise23MostPart();
+    }
+
+    private static void promise23MostPart() {
+        // Rows of Q, three WANTS, m: by the first P 20 is best, by the others 21 would be, were it one.
+        int[][] rows = {{2, 35, -20, -15, 9}, {1, 20, 50, -70, 12}, {10, -40, 20, 20, 6}, {3, 45, -20, -25, 7}};
+        for (int[] row : rows) {
+            DriveTicks x = new DriveTicks();
+            x.sets(0, 96);
+            x.sets(5, row[0]);
+            x.sets(6, 1);
+            for (int l = 0; l < 3; l++) {
+                x.wish(l, 0, row[1 + l]);
+            }
+            Check.same("23 tunes with Q " + row[0], x.tunes(row[4]), bestBySettles(x, row[4]));
+            Check.isTrue("23 20 at most", x.tunes(row[4]) <= 20);
+            if (row == rows[0]) {
+                Check.same("23 the most", x.tunes(row[4]), 20);
+            }
+        }
     }
 
     private static int bestBySettles(DriveTicks x, int m) {

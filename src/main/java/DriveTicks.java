@@ -454,6 +454,14 @@ public final class DriveTicks {
         return Math.max(least, Math.min(most, v));
     }
 
+    private static int greatestOf(int[] ofLegs) {
+        return Math.max(ofLegs[0], Math.max(ofLegs[1], ofLegs[2]));
+    }
+
+    private static int leastOf(int[] ofLegs) {
+        return Math.min(ofLegs[0], Math.min(ofLegs[1], ofLegs[2]));
+    }
+
     private int refuseBad() {
         refused[REFUSED_BAD]++;
         return BAD;
@@ -631,8 +639,8 @@ public final class DriveTicks {
             ticks = setting[TICKS];
             dead = setting[DEAD];
             correcting = setting[CORRECTING] == 1;
-            int greatest = Math.max(demand[0], Math.max(demand[1], demand[2]));
-            int least = Math.min(demand[0], Math.min(demand[1], demand[2]));
+            int greatest = greatestOf(demand);
+            int least = leastOf(demand);
             spread = greatest - least;
             over = spread > ticks;
             int middle = demandThatCounts(greatest) + demandThatCounts(least);
@@ -935,8 +943,7 @@ public final class DriveTicks {
         }
 
         private void steer() {
-            makePlan();
-            boolean wasOver = plan.over;
+            boolean wasOver = greatestOf(demand) - leastOf(demand) > setting[TICKS];
             for (int l = 0; l < LEGS; l++) {
                 int e = want[l] - current[l];
                 boolean oneSign = e > 0 && sum[l] > 0 || e < 0 && sum[l] < 0;

@@ -192,7 +192,8 @@ public final class PlanPromisesTest {
         Check.same("6 RUNS without an end that is free", x.plan(4), 3);
         x.leg(0, 0, 25);
         Check.same("6 above N is OVER", x.plan(1), 1);
-        // 25 * 48 / 49 = 24, -24 * 48 / 49 = -23 (cut towards 0): m = 1, HIGH (48 + 48 - 1) / 2 = 47, (48 - 46 - 1) / 2 = 0.
+        // 25 * 48 / 49 = 24, -24 * 48 / 49 = -23 (cut towards 0), so m is 1:
+        // HIGH (48 + 48 - 1) / 2 = 47, (48 - 46 - 1) / 2 = 0.
         Check.same("6 cut above", x.of(0, 0), 47);
         Check.same("6 cut below", x.of(1, 0), 0);
         Check.same("6 cut between", x.of(2, 0), 23);
@@ -490,5 +491,21 @@ public final class PlanPromisesTest {
         DriveTicks y = demanding(24, -24, 0);
         y.sets(3, 13);
         shiftIs("17 to both sides", y, 0, 0, -1, 1, 2);
+        promise17MostTogether();
+    }
+
+    private static void promise17MostTogether() {
+        // WANTED 20..73, 33..60, 8..60 then: {0, 2} at 20..32 tells LEG 1, {0} at 61..73 tells LEG 0, 13 TICKS each.
+        DriveTicks x = demanding(6, -20, 5);
+        x.sets(0, 82);
+        x.sets(1, 0);
+        x.sets(3, 13);
+        shiftIs("17 all three as far as may be", x, 6, 6, -6, 18, 1);
+        // WANTED 4..50, 28..50, 17..37 then: {0} at 4..16, {0, 1} at 38..50; all of it turned round does, too.
+        DriveTicks y = demanding(12, -12, -14);
+        y.sets(0, 68);
+        y.sets(1, 0);
+        y.sets(3, 13);
+        shiftIs("17 two like ones of the most", y, -6, 6, -6, 18, 2);
     }
 }

@@ -1,7 +1,5 @@
 /** Promises 18 to 31 with numbers told by hand from the document: ordinary inputs, edges, wrong inputs. */
 public final class StepPromisesTest {
-    private static final int[] WRONG_LEGS = {-1, 3, Integer.MIN_VALUE, Integer.MAX_VALUE};
-
     public static void main(String[] args) {
         promise18Wish();
         promise19Unwish();
@@ -28,42 +26,24 @@ public final class StepPromisesTest {
         Check.finish("StepPromisesTest");
     }
 
-    private static void bad(String call, DriveTicks x, int before, int answer) {
-        Check.same(call, answer, DriveTicks.BAD);
-        Check.same(call + " counts", x.count(0), before + 1);
-    }
-
-    private static void wishIs(String what, DriveTicks x, int k, int l, int period, int w) {
-        Check.same(what + " LEG", x.wished(k, 0), l);
-        Check.same(what + " PERIOD", x.wished(k, 1), period);
-        Check.same(what + " w", x.wished(k, 2), w);
-    }
-
-    private static void stateIs(String what, DriveTicks x, int l, int current, int demand, int want, int sum) {
-        Check.same(what + " CURRENT", x.state(l, 0), current);
-        Check.same(what + " DEMAND", x.state(l, 1), demand);
-        Check.same(what + " WANT", x.state(l, 2), want);
-        Check.same(what + " SUM", x.state(l, 3), sum);
-    }
-
     private static void promise18Wish() {
         DriveTicks x = new DriveTicks();
         Check.same("18 least", x.wish(0, 0, -500), 1);
         Check.same("18 most", x.wish(2, 999, 500), 2);
-        for (int l : WRONG_LEGS) {
-            bad("18 leg " + l, x, x.count(0), x.wish(l, 0, 0));
+        for (int l : Drives.NO_LEGS) {
+            Drives.bad("18 leg " + l, x, x.count(0), x.wish(l, 0, 0));
         }
-        bad("18 period below", x, x.count(0), x.wish(0, -1, 0));
-        bad("18 period above", x, x.count(0), x.wish(0, 1000, 0));
-        bad("18 w below", x, x.count(0), x.wish(0, 0, -501));
-        bad("18 w above", x, x.count(0), x.wish(0, 0, 501));
+        Drives.bad("18 period below", x, x.count(0), x.wish(0, -1, 0));
+        Drives.bad("18 period above", x, x.count(0), x.wish(0, 1000, 0));
+        Drives.bad("18 w below", x, x.count(0), x.wish(0, 0, -501));
+        Drives.bad("18 w above", x, x.count(0), x.wish(0, 0, 501));
         for (int k = 3; k <= 12; k++) {
             Check.same("18 wish " + k, x.wish(1, k, k), k);
         }
         Check.same("18 full", x.wish(1, 1, 1), DriveTicks.FULL);
         Check.same("18 full counts", x.count(2), 1);
         Check.same("18 full waits", x.count(4), 12);
-        bad("18 BAD ahead of FULL", x, x.count(0), x.wish(1, 1000, 1));
+        Drives.bad("18 BAD ahead of FULL", x, x.count(0), x.wish(1, 1000, 1));
         Check.same("18 BAD is not FULL", x.count(2), 1);
     }
 
@@ -75,11 +55,11 @@ public final class StepPromisesTest {
         x.wish(2, 4, 40);
         Check.same("19 two go", x.unwish(0), 2);
         Check.same("19 two wait", x.count(4), 2);
-        wishIs("19 first", x, 0, 1, 2, 20);
-        wishIs("19 second", x, 1, 2, 4, 40);
+        Drives.wishIs("19 first", x, 0, 1, 2, 20);
+        Drives.wishIs("19 second", x, 1, 2, 4, 40);
         Check.same("19 none goes", x.unwish(0), 0);
-        for (int l : WRONG_LEGS) {
-            bad("19 leg " + l, x, x.count(0), x.unwish(l));
+        for (int l : Drives.NO_LEGS) {
+            Drives.bad("19 leg " + l, x, x.count(0), x.unwish(l));
         }
         Check.same("19 room again", x.wish(0, 9, 9), 3);
     }
@@ -88,14 +68,14 @@ public final class StepPromisesTest {
         DriveTicks x = new DriveTicks();
         x.wish(2, 7, -3);
         x.wish(1, 5, 4);
-        wishIs("20 as made, not by PERIOD", x, 0, 2, 7, -3);
-        wishIs("20 second", x, 1, 1, 5, 4);
+        Drives.wishIs("20 as made, not by PERIOD", x, 0, 2, 7, -3);
+        Drives.wishIs("20 second", x, 1, 1, 5, 4);
         Check.same("20 not so many", x.wished(2, 0), -1);
         Check.same("20 not so many by far", x.wished(Integer.MAX_VALUE, 0), -1);
-        bad("20 k below", x, x.count(0), x.wished(-1, 0));
-        bad("20 what above", x, x.count(0), x.wished(0, 3));
-        bad("20 what below", x, x.count(0), x.wished(0, -1));
-        bad("20 what above with k above", x, x.count(0), x.wished(99, 3));
+        Drives.bad("20 k below", x, x.count(0), x.wished(-1, 0));
+        Drives.bad("20 what above", x, x.count(0), x.wished(0, 3));
+        Drives.bad("20 what below", x, x.count(0), x.wished(0, -1));
+        Drives.bad("20 what above with k above", x, x.count(0), x.wished(99, 3));
     }
 
     private static void promise21Steps() {
@@ -106,15 +86,15 @@ public final class StepPromisesTest {
         x.leg(2, 0, -15);
         x.wish(0, 0, 77);
         Check.same("21 not OVER", x.steps(1), 0);
-        stateIs("21 leg 0", x, 0, 9, 20, 77, 0);
-        stateIs("21 leg 1", x, 1, -2, -5, 0, 0);
-        stateIs("21 leg 2", x, 2, -7, -15, 0, 0);
+        Drives.stateIs("21 leg 0", x, 0, 9, 20, 77, 0);
+        Drives.stateIs("21 leg 1", x, 1, -2, -5, 0, 0);
+        Drives.stateIs("21 leg 2", x, 2, -7, -15, 0, 0);
         Check.same("21 STEPS done", x.count(3), 1);
         Check.same("21 many", x.steps(50), 0);
         Check.same("21 many done", x.count(3), 51);
-        bad("21 none", x, x.count(0), x.steps(0));
-        bad("21 below", x, x.count(0), x.steps(-1));
-        bad("21 above", x, x.count(0), x.steps(51));
+        Drives.bad("21 none", x, x.count(0), x.steps(0));
+        Drives.bad("21 below", x, x.count(0), x.steps(-1));
+        Drives.bad("21 above", x, x.count(0), x.steps(51));
         Check.same("21 as many done", x.count(3), 51);
         x.leg(0, 0, 200);
         Check.same("21 all OVER", x.steps(5), 5);
@@ -131,8 +111,8 @@ public final class StepPromisesTest {
         Check.same("21 PERIOD 0 came", x.state(0, 2), 50);
         Check.same("21 the later made counts", x.state(1, 2), 8);
         Check.same("21 two wait", x.count(4), 2);
-        wishIs("21 first waits", x, 0, 0, 1, 100);
-        wishIs("21 last waits", x, 1, 2, 2, 9);
+        Drives.wishIs("21 first waits", x, 0, 0, 1, 100);
+        Drives.wishIs("21 last waits", x, 1, 2, 2, 9);
         x.steps(1);
         Check.same("21 PERIOD 1 came", x.state(0, 2), 100);
         Check.same("21 PERIOD 2 not yet", x.state(2, 2), 0);
@@ -151,14 +131,14 @@ public final class StepPromisesTest {
         // e 50: 50 * 8 / 16 = 25, SUM 50 * 4 / 64 = 3: 28. e -25: -12 and -1 (each cut): -13. SPREAD 41.
         Check.same("21 not OVER", x.steps(1), 0);
         // m 15; HIGH 44, 3, 3 (cut); MEANS 42, 1, 1: 126 - 44 = 82 / 6 = 13, less 1: 12; 3 - 44 = -41 / 6 = -6.
-        stateIs("21 leg 0", x, 0, 12, 28, 50, 50);
-        stateIs("21 leg 1", x, 1, -6, -13, -25, -25);
-        stateIs("21 leg 2", x, 2, -6, -13, -25, -25);
+        Drives.stateIs("21 leg 0", x, 0, 12, 28, 50, 50);
+        Drives.stateIs("21 leg 1", x, 1, -6, -13, -25, -25);
+        Drives.stateIs("21 leg 2", x, 2, -6, -13, -25, -25);
         // e 38: 19, SUM 88: 352 / 64 = 5: 24. e -19: -9, SUM -44: -2: -11. SPREAD 35, m 13.
         // HIGH 41 and 2, 6 less 2; MEANS 41, 6, 6: 12 + 70 / 6 = 23, less 2; -6 - 35 / 6 = -11, less -1.
         Check.same("21 not OVER again", x.steps(1), 0);
-        stateIs("21 leg 0 again", x, 0, 21, 24, 50, 88);
-        stateIs("21 leg 1 again", x, 1, -10, -11, -25, -44);
+        Drives.stateIs("21 leg 0 again", x, 0, 21, 24, 50, 88);
+        Drives.stateIs("21 leg 1 again", x, 1, -10, -11, -25, -44);
     }
 
     private static void promise21SumsHeldBack() {
@@ -225,8 +205,8 @@ public final class StepPromisesTest {
         Check.same("22 CURRENT stays", x.state(0, 0), 100);
         Check.same("22 STEPS stay", x.count(3), 0);
         Check.same("22 MEMORY stays", x.memory(0, 0), -1000);
-        bad("22 below", x, x.count(0), x.settles(-1));
-        bad("22 above", x, x.count(0), x.settles(501));
+        Drives.bad("22 below", x, x.count(0), x.settles(-1));
+        Drives.bad("22 above", x, x.count(0), x.settles(501));
         Check.same("22 most", x.settles(500), 0);
     }
 
@@ -262,8 +242,8 @@ public final class StepPromisesTest {
         }
         Check.same("23 P stays", x.count(9), 8);
         Check.same("23 WISHES stay", x.count(4), 3);
-        bad("23 below", x, x.count(0), x.tunes(-1));
-        bad("23 above", x, x.count(0), x.tunes(501));
+        Drives.bad("23 below", x, x.count(0), x.tunes(-1));
+        Drives.bad("23 above", x, x.count(0), x.tunes(501));
         promise23MostPart();
     }
 
@@ -313,10 +293,10 @@ public final class StepPromisesTest {
         x.steps(1);
         Check.same("24 WANT", x.state(1, 2), 13);
         Check.same("24 SUM", x.state(1, 3), 0);
-        bad("24 what above", x, x.count(0), x.state(0, 4));
-        bad("24 what below", x, x.count(0), x.state(0, -1));
-        for (int l : WRONG_LEGS) {
-            bad("24 leg " + l, x, x.count(0), x.state(l, 0));
+        Drives.bad("24 what above", x, x.count(0), x.state(0, 4));
+        Drives.bad("24 what below", x, x.count(0), x.state(0, -1));
+        for (int l : Drives.NO_LEGS) {
+            Drives.bad("24 leg " + l, x, x.count(0), x.state(l, 0));
         }
     }
 
@@ -343,10 +323,10 @@ public final class StepPromisesTest {
         Check.same("25 the first is gone", x.memory(9, 3), 1);
         Check.same("25 ten at most", x.memory(10, 0), -1000);
         Check.same("25 by far", x.memory(Integer.MAX_VALUE, 3), -1000);
-        bad("25 k below", x, x.count(0), x.memory(-1, 0));
-        bad("25 what above", x, x.count(0), x.memory(0, 4));
-        bad("25 what below", x, x.count(0), x.memory(0, -1));
-        bad("25 what above with k above", x, x.count(0), x.memory(99, 4));
+        Drives.bad("25 k below", x, x.count(0), x.memory(-1, 0));
+        Drives.bad("25 what above", x, x.count(0), x.memory(0, 4));
+        Drives.bad("25 what below", x, x.count(0), x.memory(0, -1));
+        Drives.bad("25 what above with k above", x, x.count(0), x.memory(99, 4));
     }
 
     private static void promise26Over() {
@@ -371,10 +351,10 @@ public final class StepPromisesTest {
         }
         x.steps(50);
         Check.same("26 ten at most", x.over(0, 2), 10);
-        bad("26 what above", x, x.count(0), x.over(0, 3));
-        bad("26 what below", x, x.count(0), x.over(0, -1));
-        for (int l : WRONG_LEGS) {
-            bad("26 leg " + l, x, x.count(0), x.over(l, 2));
+        Drives.bad("26 what above", x, x.count(0), x.over(0, 3));
+        Drives.bad("26 what below", x, x.count(0), x.over(0, -1));
+        for (int l : Drives.NO_LEGS) {
+            Drives.bad("26 leg " + l, x, x.count(0), x.over(l, 2));
         }
     }
 
@@ -382,57 +362,45 @@ public final class StepPromisesTest {
         DriveTicks x = new DriveTicks();
         Check.same("27 least", x.type(0), 1);
         Check.same("27 most", x.type(127), 2);
-        bad("27 below", x, x.count(0), x.type(-1));
-        bad("27 above", x, x.count(0), x.type(128));
+        Drives.bad("27 below", x, x.count(0), x.type(-1));
+        Drives.bad("27 above", x, x.count(0), x.type(128));
         for (int k = 3; k <= 120; k++) {
             Check.same("27 type", x.type(32), k);
         }
         Check.same("27 full", x.type(32), DriveTicks.FULL);
         Check.same("27 full counts", x.count(2), 1);
-        bad("27 BAD ahead of FULL", x, x.count(0), x.type(128));
+        Drives.bad("27 BAD ahead of FULL", x, x.count(0), x.type(128));
         Check.same("27 as many", x.count(12), 120);
     }
 
     private static void promise28Clear() {
         DriveTicks x = new DriveTicks();
         Check.same("28 empty", x.clear(), 0);
-        type(x, "u;v;");
+        Drives.type(x, "u;v;");
         Check.same("28 four", x.clear(), 4);
         Check.same("28 empty again", x.clear(), 0);
         Check.same("28 no bytes", x.count(12), 0);
         Check.same("28 nothing is left to read", x.reads(), -10);
     }
 
-    private static void type(DriveTicks x, String text) {
-        for (int k = 0; k < text.length(); k++) {
-            x.type(text.charAt(k));
-        }
-    }
-
-    private static DriveTicks typed(String text) {
-        DriveTicks x = new DriveTicks();
-        type(x, text);
-        return x;
-    }
-
     private static void promise29Reads() {
-        DriveTicks x = typed("  u+500@999;v - 007 @ 0 ; w ;u@12;v-0;  ");
+        DriveTicks x = Drives.typed("  u+500@999;v - 007 @ 0 ; w ;u@12;v-0;  ");
         Check.same("29 five", x.reads(), 5);
-        wishIs("29 plain", x, 0, 0, 999, 500);
-        wishIs("29 blanks", x, 1, 1, 0, -7);
-        wishIs("29 bare", x, 2, 2, 0, 0);
-        wishIs("29 PERIOD alone", x, 3, 0, 12, 0);
-        wishIs("29 no PERIOD", x, 4, 1, 0, 0);
+        Drives.wishIs("29 plain", x, 0, 0, 999, 500);
+        Drives.wishIs("29 blanks", x, 1, 1, 0, -7);
+        Drives.wishIs("29 bare", x, 2, 2, 0, 0);
+        Drives.wishIs("29 PERIOD alone", x, 3, 0, 12, 0);
+        Drives.wishIs("29 no PERIOD", x, 4, 1, 0, 0);
         Check.same("29 THE TEXT stays", x.count(12), 40);
         Check.same("29 read again", x.reads(), 5);
         Check.same("29 ten wait", x.count(4), 10);
         Check.same("29 no room for the third of them", x.reads(), -10 - 26);
         Check.same("29 ten wait still", x.count(4), 10);
-        Check.same("29 -500", typed("u-500;").reads(), 1);
+        Check.same("29 -500", Drives.typed("u-500;").reads(), 1);
     }
 
     private static void faultIs(String text, int place) {
-        DriveTicks x = typed(text);
+        DriveTicks x = Drives.typed(text);
         Check.same("29 reads of \"" + text + "\"", x.reads(), -10 - place);
         Check.same("29 nothing is done by \"" + text + "\"", x.count(4), 0);
         for (int what = 0; what < 3; what++) {
@@ -487,34 +455,34 @@ public final class StepPromisesTest {
     }
 
     private static void promise29Full() {
-        DriveTicks x = typed("u;u;u;u;u;u;u;u;u;u;u;u;");
+        DriveTicks x = Drives.typed("u;u;u;u;u;u;u;u;u;u;u;u;");
         Check.same("29 twelve", x.reads(), 12);
-        DriveTicks y = typed("u;u;u;u;u;u;u;u;u;u;u;u; v;");
+        DriveTicks y = Drives.typed("u;u;u;u;u;u;u;u;u;u;u;u; v;");
         Check.same("29 thirteen", y.reads(), -10 - 25);
         Check.same("29 none of them", y.count(4), 0);
         Check.same("29 no FULL counts", y.count(2), 0);
-        DriveTicks z = typed("u;v;x");
+        DriveTicks z = Drives.typed("u;v;x");
         for (int k = 0; k < 11; k++) {
             z.wish(0, 5, k);
         }
         Check.same("29 the letter ahead of a later fault", z.reads(), -10 - 2);
         z.clear();
-        type(z, "w-3@4;");
+        Drives.type(z, "w-3@4;");
         Check.same("29 one more", z.reads(), 1);
-        wishIs("29 behind those that wait", z, 11, 2, 4, -3);
+        Drives.wishIs("29 behind those that wait", z, 11, 2, 4, -3);
         z.clear();
-        type(z, " x");
+        Drives.type(z, " x");
         Check.same("29 no letter", z.reads(), -10 - 1);
         z.clear();
-        type(z, " u");
+        Drives.type(z, " u");
         Check.same("29 a letter too many ahead of an end too early", z.reads(), -10 - 1);
     }
 
     private static void promise29Period() {
-        DriveTicks x = typed("u+5;");
+        DriveTicks x = Drives.typed("u+5;");
         x.steps(7);
         Check.same("29 reads", x.reads(), 1);
-        wishIs("29 as many as STEPS are done", x, 0, 0, 7, 5);
+        Drives.wishIs("29 as many as STEPS are done", x, 0, 0, 7, 5);
         x.steps(1);
         Check.same("29 it came", x.state(0, 2), 5);
         for (int k = 0; k < 19; k++) {
@@ -523,17 +491,17 @@ public final class StepPromisesTest {
         x.steps(41);
         Check.same("29 STEPS", x.count(3), 999);
         x.reads();
-        wishIs("29 at 999", x, 0, 0, 999, 5);
+        Drives.wishIs("29 at 999", x, 0, 0, 999, 5);
         x.steps(1);
         x.reads();
-        wishIs("29 999 at most", x, 0, 0, 999, 5);
+        Drives.wishIs("29 999 at most", x, 0, 0, 999, 5);
     }
 
     private static void promise30Count() {
         DriveTicks x = new DriveTicks();
-        bad("30 above", x, 0, x.count(13));
-        bad("30 below", x, 1, x.count(-1));
-        bad("30 far", x, 2, x.count(Integer.MIN_VALUE));
+        Drives.bad("30 above", x, 0, x.count(13));
+        Drives.bad("30 below", x, 1, x.count(-1));
+        Drives.bad("30 far", x, 2, x.count(Integer.MIN_VALUE));
         for (int k = 0; k < 13; k++) {
             x.wish(0, 0, 0);
         }

@@ -1,6 +1,7 @@
 /**
  * What is told and the plan, promises 1 to 17: each sentence of the document that names a boundary case has a
- * method of its own here, with the sentence above it and numbers told by hand.
+ * method of its own here, with the sentence above it and numbers told by hand (those of draw by a model apart from
+ * the class).
  */
 public final class PlanEdgesTest {
     public static void main(String[] args) {

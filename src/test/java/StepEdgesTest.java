@@ -1,6 +1,7 @@
 /**
  * Steps, wishes and memory, promises 4, 18 to 26, 30 and 31: each sentence of the document that names a boundary
- * case has a method of its own here, with the sentence above it and numbers told by hand.
+ * case has a method of its own here, with the sentence above it and numbers told by hand (those of tunes with
+ * STEERING and of digest by a model apart from the class).
  */
 public final class StepEdgesTest {
     public static void main(String[] args) {

@@ -1,3 +1,12 @@
+import com.sun.source.tree.CompilationUnitTree;
+import com.sun.source.tree.ExpressionTree;
+import com.sun.source.tree.IdentifierTree;
+import com.sun.source.tree.MemberSelectTree;
+import com.sun.source.tree.MethodInvocationTree;
+import com.sun.source.tree.MethodTree;
+import com.sun.source.util.JavacTask;
+import com.sun.source.util.TreeScanner;
+import java.io.File;
 import java.io.IOException;
 import java.lang.reflect.Constructor;
 import java.lang.reflect.Field;
@@ -8,9 +17,15 @@ import java.nio.file.Path;
 import java.util.ArrayList;
 import java.util.Arrays;
 import java.util.List;
+import java.util.Map;
+import java.util.Set;
+import java.util.TreeMap;
 import java.util.TreeSet;
 import java.util.regex.Matcher;
 import java.util.regex.Pattern;
+import javax.tools.JavaCompiler;
+import javax.tools.StandardJavaFileManager;
+import javax.tools.ToolProvider;
 
 /** What of LANGUAGE.md and of the document's face can be seen in the class and in its text. */
 public final class LanguageTest {
@@ -29,6 +44,7 @@ public final class LanguageTest {
         nothingElseIsVisible();
         classesInside();
         textOfTheClass();
+        callsAreNotDeep();
         Check.finish("LanguageTest");
     }
 
@@ -134,6 +150,68 @@ public final class LanguageTest {
                 Check.isTrue("short: " + lines[first].strip(), k - first < 60);
                 first = -1;
             }
+        }
+    }
+
+    /** Rules 8 and 11: no recursion, and calls, the library's own among them, go at most eight deep. */
+    private static void callsAreNotDeep() throws IOException {
+        Map<String, Set<String>> calls = callsByName();
+        Check.isTrue("methods are found", calls.containsKey("digest") && calls.size() > FACE.length);
+        int deepest = 0;
+        for (String name : calls.keySet()) {
+            deepest = Math.max(deepest, depthOf(name, calls, new ArrayList<>()));
+        }
+        Check.isTrue("eight deep at most: " + deepest, deepest > 1 && deepest <= 8);
+    }
+
+    private static int depthOf(String name, Map<String, Set<String>> calls, List<String> open) {
+        boolean again = open.contains(name);
+        Check.isTrue("no recursion: " + open + " " + name, !again);
+        if (again) {
+            return 0;
+        }
+        open.add(name);
+        int below = 0;
+        for (String called : calls.getOrDefault(name, Set.of())) {
+            below = Math.max(below, depthOf(called, calls, open));
+        }
+        open.remove(open.size() - 1);
+        return below + 1;
+    }
+
+    /** Methods of like name count as one: that can but make what is told deeper than it is. */
+    private static Map<String, Set<String>> callsByName() throws IOException {
+        Map<String, Set<String>> calls = new TreeMap<>();
+        JavaCompiler javac = ToolProvider.getSystemJavaCompiler();
+        try (StandardJavaFileManager files = javac.getStandardFileManager(null, null, null)) {
+            JavacTask task = (JavacTask) javac.getTask(null, files, null, null, null,
+                files.getJavaFileObjects(new File("src/main/java/DriveTicks.java")));
+            for (CompilationUnitTree unit : task.parse()) {
+                new CallCollector(calls).scan(unit, "");
+            }
+        }
+        return calls;
+    }
+
+    private static final class CallCollector extends TreeScanner<Void, String> {
+        private final Map<String, Set<String>> calls;
+
+        CallCollector(Map<String, Set<String>> calls) {
+            this.calls = calls;
+        }
+
+        @Override
+        public Void visitMethod(MethodTree method, String within) {
+            return super.visitMethod(method, method.getName().toString());
+        }
+
+        @Override
+        public Void visitMethodInvocation(MethodInvocationTree call, String within) {
+            ExpressionTree called = call.getMethodSelect();
+            String name = called instanceof MemberSelectTree m ? m.getIdentifier().toString()
+                : ((IdentifierTree) called).getName().toString();
+            calls.computeIfAbsent(within, w -> new TreeSet<>()).add(name);
+            return super.visitMethodInvocation(call, within);
         }
     }
 }

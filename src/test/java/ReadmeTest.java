@@ -151,7 +151,10 @@ public final class ReadmeTest {
         DriveTicks x = new DriveTicks();
         Check.same(row + " least", x.sets(what, least), first);
         Check.same(row + " most", x.sets(what, most), least);
-        Check.same(row + " below the least", x.sets(what, least - 1), DriveTicks.BAD);
-        Check.same(row + " above the most", x.sets(what, most + 1), DriveTicks.BAD);
+        // By two as well, as a number next to N's bounds is BAD for being odd.
+        for (int by = 1; by <= 2; by++) {
+            Check.same(row + " below the least", x.sets(what, least - by), DriveTicks.BAD);
+            Check.same(row + " above the most", x.sets(what, most + by), DriveTicks.BAD);
+        }
     }
 }
